@@ -16,7 +16,7 @@ public final class EnoughGive {
     private Plan draft = new Plan();
     private final Coming coming = new Coming();
     private final Coming otherComing = new Coming();
-    private final Game game = new Game(plan, coming);
+    private final Game game = new Game();
     private final Ways standing = new Ways();
     private final Ways trial = new Ways();
     private final Rest rest = new Rest();
@@ -693,8 +693,9 @@ public final class EnoughGive {
         private static final int FREE = 0, WARM = 2, EARLY = 3, SLY = 4, TOLD = 5;
         private static final int SHOWN_NOTHING = 1, SHOWN_TENS = 2;
 
-        private Plan plan;
-        private Coming coming;
+        // Nobody comes until a game is set.
+        private Plan plan = new Plan();
+        private Coming coming = new Coming();
         private int shown;
         int bar, extra, richMost, richBehind;
         final int[] gift = new int[Sorts.MOST_GIVERS];
@@ -702,11 +703,6 @@ public final class EnoughGive {
         final int[] given = new int[Sorts.MOST_GIVERS + 1];
         private final int[] who = new int[Sorts.MOST_GIVERS + 1];
         private final int[] second = new int[Sorts.MOST_GIVERS + 1];
-
-        Game(Plan plan, Coming coming) {
-            this.plan = plan;
-            this.coming = coming;
-        }
 
         /** As the plan tells, and without a rich one. */
         void set(Plan newPlan, Coming newComing, int newShown) {
@@ -813,7 +809,12 @@ public final class EnoughGive {
             int from = 0;
             for (int way = 0; way < MOST_WAYS && from >= 0; way++) {
                 // Those ahead of the changed one give as in the way before.
-                for (int p = from; p < coming.count; p++) take(game, coming, p);
+                for (int p = from; p < coming.count; p++) {
+                    int at = p * Sorts.MOST_WORTHS + pick[p];
+                    weight[p + 1] = weight[p] * coming.tenths[at];
+                    together[p + 1] = together[p] + coming.worth[at];
+                    game.play(p, coming.worth[at]);
+                }
                 add(game, coming.count);
                 if (withMeans) addMeans(game, coming);
                 from = nextWay(coming);
@@ -830,13 +831,6 @@ public final class EnoughGive {
             Arrays.fill(has, 0);
             Arrays.fill(pick, 0);
             weight[0] = 1;
-        }
-
-        private void take(Game game, Coming coming, int p) {
-            int at = p * Sorts.MOST_WORTHS + pick[p];
-            weight[p + 1] = weight[p] * coming.tenths[at];
-            together[p + 1] = together[p] + coming.worth[at];
-            game.play(p, coming.worth[at]);
         }
 
         private void add(Game game, int n) {
@@ -873,7 +867,7 @@ public final class EnoughGive {
     private static final class Rest {
         private static final int WIDE = HIGHEST_BAR + 1;
 
-        private Coming coming;
+        private Coming coming = new Coming();
         private int bar, need, penny;
         private final int[] most = new int[Sorts.MOST_GIVERS];
         private final long[] table = new long[(Sorts.MOST_GIVERS + 1) * WIDE];
@@ -907,7 +901,6 @@ public final class EnoughGive {
         }
 
         long justWays() {
-            if (coming == null) return 0;
             clearTable();
             for (int p = 0; p < coming.count; p++) join(1, most[p], true, bar, coming.count);
             long ways = 0;
@@ -917,7 +910,6 @@ public final class EnoughGive {
 
         /** The gift of a giver in the first gifts that are just enough; only where there are such. */
         int firstGift(int giver) {
-            if (coming == null) return 0;
             int left = bar;
             int needed = need;
             for (int i = 0; i <= giver && i < Sorts.MOST_GIVERS; i++) {
@@ -949,7 +941,6 @@ public final class EnoughGive {
         }
 
         long failingWays() {
-            if (coming == null) return 0;
             long ways = 0;
             for (int sum = 0; sum < bar; sum++) {
                 for (int who = 0; who <= coming.count && who <= sum; who++) ways += failingWays(sum, who);

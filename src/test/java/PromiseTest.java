@@ -149,7 +149,28 @@ public final class PromiseTest {
         Due.is("lay: the last bar counts", x.count(5), 3);
         Due.is("lay: the last day told last counts", x.count(6), 2);
         Due.is("lay: odds anew", x.odds(0), 10);
+        laidAnew();
         Due.is("lay: fails anew", x.fails(), 3);
+    }
+
+    private static void laidAnew() {
+        EnoughGive x = Due.laid("b5,2;c1;p9;e9,30;o1;s1,99;d1;g2,5,30,0,0;t0,30;w0,30,10;");
+        x.odds(0);
+        x.wipe();
+        Due.put(x, "g2,3,30,0,1;w0,19,10;");
+        x.lay();
+        Due.is("laid anew: the bar", x.count(5), 20);
+        Due.is("laid anew: the last day", x.count(6), 9);
+        Due.is("laid anew: the first gives without an extra", x.evening(0, 0, 0), 19);
+        Due.is("laid anew: the second gives what lacks", x.evening(0, 1, 0), 1);
+        Due.is("laid anew: one is enough, nothing back by parts", x.evening(0, 1, 1), 18);
+        Due.is("laid anew: no second wish", x.two(0), EnoughGive.NO);
+        x.wipe();
+        Due.put(x, "b21,0;g1,5,30,0,0;w0,19,10;");
+        x.lay();
+        Due.is("laid anew: nothing told", x.evening(0, 0, 0), 0);
+        Due.is("laid anew: it costs 20", x.wrong(1), 0);
+        Due.is("laid anew: no penny", x.fails(), 20);
     }
 
     private static void giver() {
@@ -323,6 +344,12 @@ public final class PromiseTest {
         EnoughGive few = Due.laid("b5,2;g1,1,9,6,0;w0,9,10;g1,1,9,0,0;w1,9,10;");
         Due.is("just(0) by two givers", few.just(0), 1);
         Due.is("just(-1) by two givers", few.just(-1), 4);
+        EnoughGive poor = Due.laid("b5,2;g2,1,9,0,0;w0,9,10;g1,1,0,0,0;w1,9,10;");
+        Due.is("just(0): the third can't give", poor.just(0), 1);
+        Due.is("just(1): the third can't give", poor.just(1), 4);
+        EnoughGive three = Due.laid("b5,3;g1,1,1,0,0;w0,9,10;g2,1,9,0,0;w1,9,10;");
+        int[] ones = {1, 1, 3};
+        for (int i = 0; i < 3; i++) Due.is("just(" + i + ") of three", three.just(i), ones[i]);
         EnoughGive none = Due.laid("b5,3;d5;g2,1,9,0,0;w0,9,10;g1,1,9,6,0;w1,9,10;");
         Due.is("just(-1) of none", none.just(-1), 0);
         Due.is("just(0) of none", none.just(0), EnoughGive.NONE);
@@ -369,6 +396,7 @@ public final class PromiseTest {
         Due.is("bestBar(1) of none that come", never.bestBar(1), 1);
         EnoughGive high = Due.laid("b1,0;c199;g2,4,30,0,0;w0,30,10;");
         Due.is("bestBar(0): never to be built", high.bestBar(0), 31);
+        Due.is("bestBar(0): the highest", Due.laid("b1,0;c199;g3,2,30,0,0;w0,30,10;g1,2,30,0,0;w1,28,10;").bestBar(0), 60);
         EnoughGive both = Due.laid("b1,0;c199;g2,1,30,0,0;w0,30,10;");
         Due.is("bestBar(0): each bar is wrong", both.bestBar(0), 1);
         Due.is("bestBar(1): each bar is wrong", both.bestBar(1), 100);
@@ -385,6 +413,7 @@ public final class PromiseTest {
         Due.is("bestDay()", x.bestDay(), 4);
         Due.is("bestDay: odds as told", x.odds(0), 0);
         Due.is("bestDay: never built", Due.laid("b60,0;g1,0,30,4,0;w0,9,10;").bestDay(), 0);
+        Due.is("bestDay: the last of all", Due.laid("b9,0;d3;g1,0,30,30,0;w0,9,10;").bestDay(), 30);
         // The sly one comes on the last day: ahead of the other of that day, and behind him a day later.
         EnoughGive sly = Due.laid("b9,0;g1,4,30,0,0;w0,5,10;g1,5,30,6,0;t1,4;w1,3,10;");
         Due.is("bestDay: the sly one behind", sly.bestDay(), 7);
@@ -461,6 +490,8 @@ public final class PromiseTest {
         Due.is("richDay(5): never built", near.richDay(5), 0);
         Due.is("richDay(100)", near.richDay(100), EnoughGive.BAD);
         Due.is("richDay(-1)", near.richDay(-1), EnoughGive.BAD);
+        Due.is("richDay(0)", near.richDay(0), 0);
+        Due.is("rich(0, 0)", near.rich(0, 0), 0);
         EnoughGive last = Due.laid("b20,2;d7;g2,5,30,2,5;t0,5;w0,0,10;");
         Due.is("richDay(10): the last day", last.richDay(10), 7);
     }
@@ -479,6 +510,7 @@ public final class PromiseTest {
         Due.is("two(1) of little worth", Due.laid("b10,2;s4,19;g2,1,7,0,1;w0,10,5;w0,0,5;").two(1), 0);
         // The first gives 10 of a worth of 1.98: cut, 1.
         Due.is("two(1) cut", Due.laid("b60,0;s2,99;g1,2,9,0,0;w0,2,10;").two(1), 0);
+        Due.is("two(1) by hundredths", Due.laid("b60,0;s1,5;g1,1,30,0,0;w0,20,10;").two(1), 10);
         EnoughGive one = Due.laid("b60,8;s1,99;g1,2,9,0,0;w0,2,10;");
         Due.is("two(1) of no need of givers", one.two(1), 10);
         Due.is("two(2): the first is not built", one.two(2), 0);
