@@ -6,7 +6,6 @@ public final class EnoughGive {
 
     // What a giver has on an evening may be -1 or -4, so there the two answers lie further down.
     private static final int EVENING_BAD = -1001, EVENING_NONE = -1004;
-    private static final int MOST_KEPT = 2;
     private static final int HIGHEST_BAR = 60, HIGHEST_DAY = 30, HIGHEST_EXTRA = 9, HIGHEST_GIFT = 30;
     private static final int HIGHEST_SHOWN = 2, HIGHEST_RICH = 99, HIGHEST_EVENING = 9999;
 
@@ -22,9 +21,7 @@ public final class EnoughGive {
     private final Rest rest = new Rest();
     private final int[] told = new int[Sorts.MOST_GIVERS];
     private int shown;
-    private final int[] keptTold = new int[MOST_KEPT * Sorts.MOST_GIVERS];
-    private final int[] keptShown = new int[MOST_KEPT];
-    private int kept;
+    private final Shelf kept = new Shelf();
 
     // Going through all ways is dear: what it told is used again until something it hangs on changes.
     private boolean standingKnown, barKnown, failsKnown;
@@ -63,7 +60,7 @@ public final class EnoughGive {
         coming.arrange(plan, plan.lastDay);
         Arrays.fill(told, 0);
         shown = 0;
-        kept = 0;
+        kept.count = 0;
         failsKnown = false;
         forgetWays();
         return plan.sorts.givers;
@@ -264,20 +261,14 @@ public final class EnoughGive {
     }
 
     public int keep() {
-        if (kept >= MOST_KEPT) return FULL;
-        System.arraycopy(told, 0, keptTold, kept * Sorts.MOST_GIVERS, Sorts.MOST_GIVERS);
-        keptShown[kept] = shown;
-        kept++;
-        return kept;
+        return kept.put(told, shown) ? kept.count : FULL;
     }
 
     public int back() {
-        if (kept < 1) return NO;
-        kept--;
-        System.arraycopy(keptTold, kept * Sorts.MOST_GIVERS, told, 0, Sorts.MOST_GIVERS);
-        shown = keptShown[kept];
+        if (kept.count < 1) return NO;
+        shown = kept.takeInto(told);
         forgetWays();
-        return kept;
+        return kept.count;
     }
 
     public int count(int what) {
@@ -286,7 +277,7 @@ public final class EnoughGive {
             case 1: return coming.count;
             case 2: return plan.sorts.sorts;
             case 3: return text.length;
-            case 4: return kept;
+            case 4: return kept.count;
             case 5: return plan.bar;
             case 6: return plan.lastDay;
             default: return BAD;
@@ -381,6 +372,31 @@ public final class EnoughGive {
         /** The byte there; -1 behind the end. */
         int byteAt(int at) {
             return at >= 0 && at < length ? bytes[at] : -1;
+        }
+    }
+
+    /** The boards kept, the last one taken off first. */
+    private static final class Shelf {
+        private static final int MOST = 2;
+
+        int count;
+        private final int[] rows = new int[MOST * Sorts.MOST_GIVERS];
+        private final int[] shown = new int[MOST];
+
+        boolean put(int[] row, int itsShown) {
+            if (count < 0 || count >= MOST || row.length < Sorts.MOST_GIVERS) return false;
+            System.arraycopy(row, 0, rows, count * Sorts.MOST_GIVERS, Sorts.MOST_GIVERS);
+            shown[count] = itsShown;
+            count++;
+            return true;
+        }
+
+        /** Takes the last one off: its row into the row given, what was shown as the answer. */
+        int takeInto(int[] row) {
+            if (count < 1 || count > MOST || row.length < Sorts.MOST_GIVERS) return 0;
+            count--;
+            System.arraycopy(rows, count * Sorts.MOST_GIVERS, row, 0, Sorts.MOST_GIVERS);
+            return shown[count];
         }
     }
 

@@ -57,13 +57,23 @@ public final class LanguageTest {
         for (Field f : EnoughGive.class.getDeclaredFields()) {
             boolean constant = Set.of("BAD", "NO", "FULL", "NONE").contains(f.getName());
             Due.holds(f + " is public if the face has it, else private", constant ? Modifier.isPublic(f.getModifiers()) : Modifier.isPrivate(f.getModifiers()));
-            Due.holds(f + ": static fields are final", !Modifier.isStatic(f.getModifiers()) || Modifier.isFinal(f.getModifiers()));
         }
         Class<?>[] inside = EnoughGive.class.getDeclaredClasses();
         Due.holds("some twelve classes", inside.length <= 12);
         for (Class<?> c : inside) {
             Due.holds(c + " is static, and not public", Modifier.isStatic(c.getModifiers()) && !Modifier.isPublic(c.getModifiers()));
+            fields(c);
         }
+        fields(EnoughGive.class);
+    }
+
+    private static void fields(Class<?> c) {
+        int own = 0;
+        for (Field f : c.getDeclaredFields()) {
+            if (!Modifier.isStatic(f.getModifiers())) own++;
+            Due.holds(f + ": static fields are final", !Modifier.isStatic(f.getModifiers()) || Modifier.isFinal(f.getModifiers()));
+        }
+        Due.holds(c + " has some twenty fields at most: " + own, own <= 20);
     }
 
     private static void methods(String code) {

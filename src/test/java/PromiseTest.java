@@ -80,45 +80,41 @@ public final class PromiseTest {
         Due.is("wipe: length of the new text", x.count(3), 3);
     }
 
-    private static void fault(String text, int want) {
-        Due.is("fault() of " + text, Due.written(text).fault(), want);
-    }
-
     private static void faultOfTerms() {
         String[] good = {"", "b1,0;", "b60,8;", "b001,000;", "d0;", "d30;", "c0;", "c199;", "p0;", "p9;", "e0,0;", "e9,30;",
             "o0;", "o1;", "s1,0;", "s60,99;", "d1;d2;d3;"};
-        for (String text : good) fault(text, EnoughGive.NONE);
+        for (String text : good) Due.fault(text, EnoughGive.NONE);
         String[] bad = {"b0,0;", "b61,0;", "b1,9;", "b1;", "b1,2,3;", "b1,2", "b", "b;", "b,1;", "b1,;", "b0001,0;", "b 1,0;",
             "B1,0;", "b-1,0;", "b1,0:", "b1;0;", "d31;", "d300;", "c200;", "c1000;", "p10;", "e10,0;", "e0,31;", "e1;", "o2;", "s0,0;", "s61,0;",
             "s1,100;", "s1;", "x1;", ";", "1;", "\u00ff1;", "d\u00ff;", "d1"};
         for (String text : bad) {
-            fault(text, 0);
-            fault("d1;" + text, 3);
+            Due.fault(text, 0);
+            Due.fault("d1;" + text, 3);
         }
-        fault("d1;d99;d98;", 3);
+        Due.fault("d1;d99;d98;", 3);
     }
 
     private static void faultOfSorts() {
         String[] good = {"g1,0,0,0,0;w0,0,10;", "g8,5,30,30,9;w0,30,10;", "g1,1,1,1,1;w0,1,1;w0,1,1;w0,1,8;t0,30;t0,0;",
             "g7,1,1,1,1;g1,1,1,1,1;w1,1,10;w0,1,10;"};
-        for (String text : good) fault(text, EnoughGive.NONE);
+        for (String text : good) Due.fault(text, EnoughGive.NONE);
         String[] bad = {"g0,1,1,1,1;", "g9,1,1,1,1;", "g1,6,1,1,1;", "g1,1,31,1,1;", "g1,1,1,31,1;", "g1,1,1,1,10;",
             "g1,1,1,1;", "g1,1,1,1,1,1;", "w0,1,10;", "t0,1;"};
-        for (String text : bad) fault(text, 0);
+        for (String text : bad) Due.fault(text, 0);
         String sort = "g1,1,1,1,1;";
         String six = sort + sort + sort + sort + sort + sort;
-        fault(six, 66);
-        fault(six + sort, 66);
-        fault(six + "d99;", 66);
-        fault("g5,1,1,1,1;g4,1,1,1,1;", 11);
+        Due.fault(six, 66);
+        Due.fault(six + sort, 66);
+        Due.fault(six + "d99;", 66);
+        Due.fault("g5,1,1,1,1;g4,1,1,1,1;", 11);
         for (String item : new String[] {"w1,1,10;", "w0,31,10;", "w0,1,0;", "w0,1,11;", "w0,1;", "t1,1;", "t0,31;", "t0;"}) {
-            fault(sort + item, 11);
+            Due.fault(sort + item, 11);
         }
-        fault(sort + "w0,1,1;w0,1,1;w0,1,8;w0,1,1;", 11 + 7 * 3);
-        fault(sort + "w0,1,9;", 18);
-        fault(sort + "w0,1,6;w0,1,5;", 25);
-        fault(sort + sort + "w0,1,10;d3;", 33);
-        fault(sort + "d31;w0,1,9;", 11);
+        Due.fault(sort + "w0,1,1;w0,1,1;w0,1,8;w0,1,1;", 11 + 7 * 3);
+        Due.fault(sort + "w0,1,9;", 18);
+        Due.fault(sort + "w0,1,6;w0,1,5;", 25);
+        Due.fault(sort + sort + "w0,1,10;d3;", 33);
+        Due.fault(sort + "d31;w0,1,9;", 11);
     }
 
     private static void lay() {
@@ -598,33 +594,29 @@ public final class PromiseTest {
         Due.is("count(-1)", x.count(-1), EnoughGive.BAD);
     }
 
-    private static void gives(String text, int i, int want) {
-        Due.is("gift of " + i + " by " + text, Due.laid(text).evening(0, i, 0), want);
-    }
-
     private static void kinds() {
-        gives("b9,0;g1,0,30,0,0;w0,9,10;", 0, 9);
-        gives("b9,0;g1,0,30,0,0;w0,8,10;", 0, 0);
-        gives("b9,0;g1,0,8,0,0;w0,9,10;", 0, 0);
-        gives("b9,0;g2,0,30,0,0;w0,9,10;", 0, 0);
-        gives("b9,0;g2,0,30,0,0;w0,9,10;", 1, 9);
-        gives("b9,0;g2,1,30,0,0;w0,9,10;", 0, 5);
-        gives("b9,0;g2,1,30,0,0;w0,9,10;", 1, 4);
-        gives("b9,0;g2,1,3,0,0;w0,9,10;", 0, 3);
-        gives("b1,0;g1,2,30,0,0;w0,9,10;", 0, 5);
-        gives("b1,0;g1,2,8,0,0;w0,9,10;", 0, 4);
-        gives("b30,0;e3,0;g1,3,30,0,0;w0,9,10;", 0, 12);
-        gives("b30,0;e3,0;g1,3,11,0,0;w0,9,10;", 0, 11);
-        gives("b10,0;e3,0;g1,3,30,0,0;w0,9,10;", 0, 10);
-        gives("b30,0;e3,0;g1,3,30,1,0;w0,9,10;", 0, 9);
-        gives("b9,0;e3,0;g2,3,30,1,0;w0,9,10;", 0, 5);
-        gives("b9,0;g2,3,30,0,0;w0,9,10;", 0, 9);
-        gives("b9,0;g2,4,30,0,0;w0,9,10;", 0, 9);
-        gives("b9,0;g2,4,30,0,0;w0,9,10;", 1, 0);
-        gives("b10,0;g2,4,30,0,0;w0,9,10;", 0, 0);
-        gives("b9,0;g1,5,30,0,0;t0,20;w0,9,10;", 0, 20);
-        gives("b9,0;g1,5,19,0,0;t0,20;w0,9,10;", 0, 19);
-        gives("b9,0;g1,5,19,0,0;t0,20;t0,7;w0,9,10;", 0, 7);
-        gives("b9,0;g1,5,19,0,0;w0,9,10;", 0, 0);
+        Due.gives("b9,0;g1,0,30,0,0;w0,9,10;", 0, 9);
+        Due.gives("b9,0;g1,0,30,0,0;w0,8,10;", 0, 0);
+        Due.gives("b9,0;g1,0,8,0,0;w0,9,10;", 0, 0);
+        Due.gives("b9,0;g2,0,30,0,0;w0,9,10;", 0, 0);
+        Due.gives("b9,0;g2,0,30,0,0;w0,9,10;", 1, 9);
+        Due.gives("b9,0;g2,1,30,0,0;w0,9,10;", 0, 5);
+        Due.gives("b9,0;g2,1,30,0,0;w0,9,10;", 1, 4);
+        Due.gives("b9,0;g2,1,3,0,0;w0,9,10;", 0, 3);
+        Due.gives("b1,0;g1,2,30,0,0;w0,9,10;", 0, 5);
+        Due.gives("b1,0;g1,2,8,0,0;w0,9,10;", 0, 4);
+        Due.gives("b30,0;e3,0;g1,3,30,0,0;w0,9,10;", 0, 12);
+        Due.gives("b30,0;e3,0;g1,3,11,0,0;w0,9,10;", 0, 11);
+        Due.gives("b10,0;e3,0;g1,3,30,0,0;w0,9,10;", 0, 10);
+        Due.gives("b30,0;e3,0;g1,3,30,1,0;w0,9,10;", 0, 9);
+        Due.gives("b9,0;e3,0;g2,3,30,1,0;w0,9,10;", 0, 5);
+        Due.gives("b9,0;g2,3,30,0,0;w0,9,10;", 0, 9);
+        Due.gives("b9,0;g2,4,30,0,0;w0,9,10;", 0, 9);
+        Due.gives("b9,0;g2,4,30,0,0;w0,9,10;", 1, 0);
+        Due.gives("b10,0;g2,4,30,0,0;w0,9,10;", 0, 0);
+        Due.gives("b9,0;g1,5,30,0,0;t0,20;w0,9,10;", 0, 20);
+        Due.gives("b9,0;g1,5,19,0,0;t0,20;w0,9,10;", 0, 19);
+        Due.gives("b9,0;g1,5,19,0,0;t0,20;t0,7;w0,9,10;", 0, 7);
+        Due.gives("b9,0;g1,5,19,0,0;w0,9,10;", 0, 0);
     }
 }
