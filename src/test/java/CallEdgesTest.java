@@ -305,8 +305,10 @@ public final class CallEdgesTest {
             }
             EnoughGive x = state.make();
             EnoughGive y = state.make();
+            x.show(0);
             Seen.of(x);
             Due.is("back() behind a look: " + state.name, x.back(), y.back());
+            if (state.keeps == 0) y.show(0);
             same("back() behind a look: " + state.name, Seen.of(x), Seen.of(y));
         }
     }

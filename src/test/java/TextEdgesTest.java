@@ -26,7 +26,8 @@ public final class TextEdgesTest {
         extra();
         parts();
         sorts();
-        sortsTogether();
+        sixSorts();
+        eightGivers();
         worths();
         tenthsTogether();
         toldOnes();
@@ -386,8 +387,8 @@ public final class TextEdgesTest {
         for (int i = 0; i < 8; i++) Due.is("the " + i + "th by nines", far.giver(i, 2), come[i]);
     }
 
-    /** 8 givers of all sorts, 6 sorts. */
-    private static void sortsTogether() {
+    /** 6 sorts at most, numbered 0, 1, .. */
+    private static void sixSorts() {
         String tens = "";
         String text = "";
         for (int s = 0; s < 6; s++) {
@@ -399,13 +400,22 @@ public final class TextEdgesTest {
         }
         Due.fault(text + "g1,1,1,0,0;" + tens, 66);
         Due.fault(text + tens + "g1,1,1,0,0;", 66 + 48);
-        Due.fault("g7,1,1,0,0;g1,1,1,0,0;w0,1,10;w1,1,10;", EnoughGive.NONE);
-        Due.fault("g7,1,1,0,0;g2,1,1,0,0;w0,1,10;w1,1,10;", 11);
-        Due.fault("g8,1,1,0,0;g1,1,1,0,0;w0,1,10;w1,1,10;", 11);
-        Due.fault("g1,1,1,0,0;g8,1,1,0,0;w0,1,10;w1,1,10;", 11);
-        Due.fault("g2,1,1,0,0;g2,1,1,0,0;g2,1,1,0,0;g2,1,1,0,0;w0,1,10;w1,1,10;w2,1,10;w3,1,10;", EnoughGive.NONE);
-        Due.fault("g2,1,1,0,0;g2,1,1,0,0;g2,1,1,0,0;g3,1,1,0,0;w0,1,10;w1,1,10;w2,1,10;w3,1,10;", 33);
-        Due.fault("g3,1,1,0,0;g1,1,1,0,0;g1,1,1,0,0;g1,1,1,0,0;g1,1,1,0,0;g1,1,1,0,0;d1;", 69);
+        Due.fault("g3,1,1,0,0;g1,1,1,0,0;g1,1,1,0,0;g1,1,1,0,0;g1,1,1,0,0;g1,1,1,0,0;" + tens, EnoughGive.NONE);
+    }
+
+    /** 8 givers of all sorts together at most. */
+    private static void eightGivers() {
+        String tens = "w0,1,10;w1,1,10;";
+        for (int n = 1; n <= 8; n++) {
+            String first = "g" + n + ",1,1,0,0;";
+            if (n < 8) Due.is("lay() of " + n + " and the rest of 8", Due.laid(first + "g" + (8 - n) + ",1,1,0,0;" + tens).count(0), 8);
+            Due.fault(first + "g" + (9 - n) + ",1,1,0,0;" + tens, 11);
+            Due.fault(first + "g8,1,1,0,0;" + tens, 11);
+        }
+        String more = tens + "w2,1,10;w3,1,10;";
+        Due.fault("g2,1,1,0,0;g2,1,1,0,0;g2,1,1,0,0;g2,1,1,0,0;" + more, EnoughGive.NONE);
+        Due.fault("g2,1,1,0,0;g2,1,1,0,0;g2,1,1,0,0;g3,1,1,0,0;" + more, 33);
+        Due.fault("g3,1,1,0,0;g1,1,1,0,0;g1,1,1,0,0;g1,1,1,0,0;g1,1,1,0,0;g2,1,1,0,0;", 55);
     }
 
     private static void worths() {
