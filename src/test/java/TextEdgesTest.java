@@ -292,6 +292,8 @@ public final class TextEdgesTest {
         Due.built("g1,5,30,0,0;t0,19;w0,0,10;", 0);
         // Of several the last one counts, of both its numbers.
         Due.is("b of several", Due.laid("b9,0;b60,8;b7,2;" + SORT + "w0,1,10;").count(5), 7);
+        Due.is("b of several, the highest last", Due.laid("b9,0;b7,2;b60,8;" + SORT + "w0,1,10;").count(5), 60);
+        Due.built("b9,0;b10,0;g1,5,30,0,0;t0,9;w0,0,10;", 0);
         Due.built("b1,0;b9,2;g1,5,30,0,0;t0,9;w0,0,10;", 0);
         Due.built("b9,2;b9,0;g1,5,30,0,0;t0,9;w0,0,10;", 1);
         Due.built("b9,2;g1,5,30,0,0;t0,9;w0,0,10;b9,1;", 1);
@@ -507,6 +509,11 @@ public final class TextEdgesTest {
         Due.is("s of a purse given away", Due.laid("s1,99;" + giver).two(1), 0);
         Due.is("s of several, the lower last", Due.laid("s60,0;s1,99;" + none).two(1), 100);
         Due.is("s of several, the higher last", Due.laid("s1,99;s60,0;" + none).two(1), 0);
+        Due.is("s of several, the higher alone last", Due.laid("s1,99;s59,99;" + none).two(1), 0);
+        Due.is("s of several, the lower alone last", Due.laid("s59,99;s1,99;" + none).two(1), 100);
+        Due.is("s of several, the greater share last", Due.laid("s9,1;s9,99;" + none).two(1), 100);
+        Due.is("s of several, the lesser share last", Due.laid("s9,99;s9,1;" + none).two(1), 0);
+        Due.is("s of several, no share last", Due.laid("s9,99;s9,0;" + none).two(1), 0);
     }
 
     /** A text without fault and with a sort is laid; the terms of the first object are those of its text. */
