@@ -116,7 +116,7 @@ public final class LanguageTest {
         while (calls.find()) Due.holds("of the library: " + calls.group(), allowed.contains(calls.group()));
         for (String line : code.split("\n")) {
             boolean makes = Pattern.compile("\\bnew \\w").matcher(line).find();
-            Due.holds("made with the object: " + line, !makes || line.matches(" {4,8}(private )?(final )?\\w+(\\[\\])? \\w+ = new .*;"));
+            Due.holds("made with the object: " + line, !makes || line.matches(" {4,8}(private |final |private final )\\w+(\\[\\])? \\w+ = new .*;"));
         }
     }
 
